@@ -226,6 +226,20 @@ public final class RewritingTest {
         Check.state("least(1) of a form with too many gates", () -> lab.least(1));
         Check.due("as before", Lab.told(lab, 1), longest);
         Check.due("phase() as before", lab.phase(), 4);
+        // With H at the end the form has 64 gates, without it one H more.
+        String most = Lab.repeated("t0 h0", 23) + " x0";
+        Lab.set(lab, 1, most);
+        Check.state("least(1) of a form with 65 gates, H behind the last T", () -> lab.least(1));
+        Lab.set(lab, 1, most + " h0");
+        Check.due("least(1) of a form with 64 gates", lab.least(1), 23);
+        Check.due("the form", Lab.told(lab, 1), "s0 h0 s0 s0 h0 " + Lab.repeated("t0 h0 t0 h0 s0 t0 h0 s0", 7)
+                + " t0 h0 t0");
+        String other = Lab.repeated("t0 h0", 23) + " s0 x0";
+        Lab.set(lab, 1, other + " t0");
+        Check.state("least(1) of a form with 65 gates, a T behind S", () -> lab.least(1));
+        Lab.set(lab, 1, other);
+        Check.due("least(1) of 64 gates with S at the end", lab.least(1), 23);
+        Check.due("size(1) of 64 gates with S at the end", lab.size(1), 64);
         Lab.set(lab, 1, Lab.repeated("t0 h0", 32));
         Check.due("least(1) of 64 gates", lab.least(1), 32);
         Check.due("size(1)", lab.size(1), 64);

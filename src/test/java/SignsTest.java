@@ -42,6 +42,9 @@ public final class SignsTest {
         row("h0 s0 x0", 0, product("Y") + MINUS);
         row("h0 s0 z0", 0, product("Y") + MINUS);
         row("h3 s3", 3, product("000Y"));
+        row("h0 s0 s0 s0 s0", 0, product("X"));
+        row("h0 z0 z0", 0, product("X"));
+        row("h0 z0 h0 x0", 0, product("Z"));
         row("x0 x0", 0, product("Z"));
     }
 
@@ -64,6 +67,13 @@ public final class SignsTest {
         row("x1 w13", 1, product("000Z") + MINUS);
         row("w13", 3, product("0Z"));
         row("w13", 2, product("00Z"));
+        row("c01 w01", 1, product("ZZ"));
+        row("h0 c01 w01", 0, product("XX"));
+        // The sign of X Z comes twice.
+        row("h0 d01 c01 c01", 0, product("XZ"));
+        RingCircuits lab = Lab.of(2, "x0");
+        Check.due("with a sign", lab.row(0, 0), product("Z") + MINUS);
+        Check.due("without one behind it", lab.row(0, 1), product("0Z"));
     }
 
     private static void allKinds() {

@@ -49,6 +49,8 @@ public final class StatesTest {
         stateOf(2, "x0 c01", 0, NO, NO, NO, ONE);
         stateOf(2, "x1 c01", 0, NO, NO, ONE, NO);
         stateOf(2, "x0 w01", 0, NO, NO, ONE, NO);
+        stateOf(3, "x2 w21", 0, NO, NO, ONE, NO, NO, NO, NO, NO);
+        stateOf(4, "x2 w23", 0, NO, NO, NO, NO, NO, NO, NO, NO, ONE);
         stateOf(2, "h0 h1 d01", 2, ONE, ONE, ONE, MINUS);
         stateOf(3, "x0 x1 o012", 0, NO, NO, NO, NO, NO, NO, NO, ONE);
         stateOf(3, "x0 x2 o012", 0, NO, NO, NO, NO, NO, ONE, NO, NO);
@@ -155,6 +157,10 @@ public final class StatesTest {
         Check.due("measure(2, 0)", lab.measure(2, 0), true);
         seen(lab, "measured twice", 2, NO, NO, NO, ONE, NO, NO, NO, NO);
         Check.due("measure(2, 1)", lab.measure(2, 1), false);
+        RingCircuits alone = Lab.of(1);
+        alone.state(0);
+        Check.due("measure(0, 1) of basis state 0", alone.measure(0, 1), false);
+        Check.due("measure(0, 0) of basis state 0", alone.measure(0, 0), true);
         int[][] wrong = {{3, 0}, {-1, 0}, {0, 2}, {0, -1}, {4, 0}, {Integer.MAX_VALUE, 1}, {0, Integer.MIN_VALUE}};
         for (int[] w : wrong) {
             Check.bounds("measure(" + w[0] + ", " + w[1] + ")", () -> lab.measure(w[0], w[1]));
