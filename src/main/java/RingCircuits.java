@@ -419,7 +419,7 @@ public final class RingCircuits {
             return kind == Z ? 4 : 0;
         }
 
-        /** Turns together are 2, 4 or 8 just where both gates are of one kind, as with all other kinds. */
+        /** Turns are 2, 4 or 8 together just where both gates are T, S or Z: all that meet are of one kind. */
         static boolean meet(int one, int two) {
             int kind = kind(one);
             if (kind != kind(two)) {

@@ -215,7 +215,8 @@ public final class CircuitsTest {
     private static void expand() {
         RingCircuits lab = Lab.of(4, "h3 o201 x0");
         Check.due("expand(0)", lab.expand(0), 23);
-        Check.due("expanded", Lab.told(lab, 0), "h3 h1 c01 t1 s1 z1 c21 t1 c01 t1 s1 z1 c21 t0 t1 h1 c20 t2 t0 s0 z0 c20 x0");
+        Check.due("expanded", Lab.told(lab, 0),
+                "h3 h1 c01 t1 s1 z1 c21 t1 c01 t1 s1 z1 c21 t0 t1 h1 c20 t2 t0 s0 z0 c20 x0");
         Check.due("expand(0) again", lab.expand(0), 23);
         Check.due("expand(1) of none", lab.expand(1), 0);
         Check.argument("expand(3)", () -> lab.expand(3));

@@ -46,7 +46,8 @@ record Num(long a, long b, long c, long d, int k) {
         int due = Math.max(k, other.k);
         Num x = withScale(due);
         Num y = other.withScale(due);
-        return of(Math.addExact(x.a, y.a), Math.addExact(x.b, y.b), Math.addExact(x.c, y.c), Math.addExact(x.d, y.d), due);
+        return of(Math.addExact(x.a, y.a), Math.addExact(x.b, y.b), Math.addExact(x.c, y.c), Math.addExact(x.d, y.d),
+                due);
     }
 
     Num times(Num other) {

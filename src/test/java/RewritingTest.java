@@ -234,6 +234,11 @@ public final class RewritingTest {
         Check.due("least(1) of a form with 64 gates", lab.least(1), 23);
         Check.due("the form", Lab.told(lab, 1), "s0 h0 s0 s0 h0 " + Lab.repeated("t0 h0 t0 h0 s0 t0 h0 s0", 7)
                 + " t0 h0 t0");
+        Lab.set(lab, 1, Lab.repeated("t0 h0", 22) + " s0 x0");
+        Check.due("least(1) of 64 gates, H first", lab.least(1), 22);
+        Check.due("size(1) of 64 gates, H first", lab.size(1), 64);
+        Lab.set(lab, 1, Lab.repeated("t0 h0", 22) + " s0 x0 t0");
+        Check.state("least(1) of a form with 65 gates, H first", () -> lab.least(1));
         String other = Lab.repeated("t0 h0", 23) + " s0 x0";
         Lab.set(lab, 1, other + " t0");
         Check.state("least(1) of a form with 65 gates, a T behind S", () -> lab.least(1));

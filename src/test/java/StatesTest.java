@@ -161,6 +161,12 @@ public final class StatesTest {
         alone.state(0);
         Check.due("measure(0, 1) of basis state 0", alone.measure(0, 1), false);
         Check.due("measure(0, 0) of basis state 0", alone.measure(0, 0), true);
+        RingCircuits widest = Lab.of(4, "x3");
+        widest.state(0);
+        Check.due("measure(3, 0) of basis state 8", widest.measure(3, 0), false);
+        Check.due("measure(0, 1) of basis state 8", widest.measure(0, 1), false);
+        Check.due("measure(3, 1) of basis state 8", widest.measure(3, 1), true);
+        Check.due("amplitude(8, 0)", widest.amplitude(8, 0), 1);
         int[][] wrong = {{3, 0}, {-1, 0}, {0, 2}, {0, -1}, {4, 0}, {Integer.MAX_VALUE, 1}, {0, Integer.MIN_VALUE}};
         for (int[] w : wrong) {
             Check.bounds("measure(" + w[0] + ", " + w[1] + ")", () -> lab.measure(w[0], w[1]));
