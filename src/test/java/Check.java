@@ -63,6 +63,11 @@ final class Check {
         return 0;
     }
 
+    /** How many answers were not as due until now. */
+    static int wrong() {
+        return wrong;
+    }
+
     static void end() {
         System.out.println(looked + " answers, " + wrong + " not as due");
         if (wrong != 0 || looked == 0) {

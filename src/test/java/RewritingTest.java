@@ -6,6 +6,7 @@ public final class RewritingTest {
         passes();
         noPasses();
         order();
+        changesNoMatrix();
         optimise();
         words();
         rounds();
@@ -133,6 +134,18 @@ public final class RewritingTest {
         optimised("c01 h0 h0 x1 c01 x1", "");
     }
 
+    /** Each gate between two others that meet, be they as they were or gone. */
+    private static void changesNoMatrix() {
+        for (String outer : Lab.allGates()) {
+            for (String inner : Lab.allGates()) {
+                RingCircuits lab = Lab.of(4, outer + " " + inner + " " + outer);
+                lab.append(1, 0);
+                lab.optimise(0);
+                Check.due("matrix of " + Lab.told(lab, 1) + " optimised", lab.equal(0, 1), 1);
+            }
+        }
+    }
+
     private static void optimise() {
         RingCircuits lab = Lab.of(2);
         Check.due("optimise(1) of none", lab.optimise(1), 0);
@@ -219,35 +232,38 @@ public final class RewritingTest {
     }
 
     private static void leastTooLong() {
-        RingCircuits lab = Lab.of(1, "x0 z0 x0 z0");
-        lab.least(0);
-        String longest = Lab.repeated("t0 h0", 31) + " x0";
-        Lab.set(lab, 1, longest);
-        Check.state("least(1) of a form with too many gates", () -> lab.least(1));
-        Check.due("as before", Lab.told(lab, 1), longest);
-        Check.due("phase() as before", lab.phase(), 4);
+        tooLong(Lab.repeated("t0 h0", 31) + " x0");
         // With H at the end the form has 64 gates, without it one H more.
         String most = Lab.repeated("t0 h0", 23) + " x0";
-        Lab.set(lab, 1, most);
-        Check.state("least(1) of a form with 65 gates, H behind the last T", () -> lab.least(1));
-        Lab.set(lab, 1, most + " h0");
-        Check.due("least(1) of a form with 64 gates", lab.least(1), 23);
-        Check.due("the form", Lab.told(lab, 1), "s0 h0 s0 s0 h0 " + Lab.repeated("t0 h0 t0 h0 s0 t0 h0 s0", 7)
-                + " t0 h0 t0");
-        Lab.set(lab, 1, Lab.repeated("t0 h0", 22) + " s0 x0");
-        Check.due("least(1) of 64 gates, H first", lab.least(1), 22);
-        Check.due("size(1) of 64 gates, H first", lab.size(1), 64);
-        Lab.set(lab, 1, Lab.repeated("t0 h0", 22) + " s0 x0 t0");
-        Check.state("least(1) of a form with 65 gates, H first", () -> lab.least(1));
-        String other = Lab.repeated("t0 h0", 23) + " s0 x0";
-        Lab.set(lab, 1, other + " t0");
-        Check.state("least(1) of a form with 65 gates, a T behind S", () -> lab.least(1));
-        Lab.set(lab, 1, other);
-        Check.due("least(1) of 64 gates with S at the end", lab.least(1), 23);
-        Check.due("size(1) of 64 gates with S at the end", lab.size(1), 64);
-        Lab.set(lab, 1, Lab.repeated("t0 h0", 32));
-        Check.due("least(1) of 64 gates", lab.least(1), 32);
-        Check.due("size(1)", lab.size(1), 64);
-        Check.due("the same", Lab.told(lab, 1), Lab.repeated("t0 h0", 32));
+        tooLong(most);
+        String form = Lab.told(longest(most + " h0", 23), 0);
+        Check.due("the form", form, "s0 h0 s0 s0 h0 " + Lab.repeated("t0 h0 t0 h0 s0 t0 h0 s0", 7) + " t0 h0 t0");
+        String headed = Lab.repeated("t0 h0", 22) + " s0 x0";
+        longest(headed, 22);
+        tooLong(headed + " t0");
+        String behindS = Lab.repeated("t0 h0", 23) + " s0 x0";
+        longest(behindS, 23);
+        tooLong(behindS + " t0");
+        String least = Lab.repeated("t0 h0", 32);
+        Check.due("the same", Lab.told(longest(least, 32), 0), least);
+    }
+
+    private static void tooLong(String circuit) {
+        RingCircuits lab = Lab.of(1, "x0 z0 x0 z0");
+        lab.least(0);
+        Lab.set(lab, 1, circuit);
+        Check.state("least(1) of " + circuit, () -> lab.least(1));
+        Check.due("as before", Lab.told(lab, 1), circuit);
+        Check.due("phase() as before", lab.phase(), 4);
+    }
+
+    /** A form of just 64 gates. */
+    private static RingCircuits longest(String circuit, int count) {
+        RingCircuits lab = Lab.of(1, circuit);
+        lab.append(1, 0);
+        Check.due("least(0) of " + circuit, lab.least(0), count);
+        Check.due("size(0) of " + circuit, lab.size(0), 64);
+        Check.due("equal but for a phase, " + circuit, lab.equal(1, 0) > 0, true);
+        return lab;
     }
 }
