@@ -405,7 +405,11 @@ public final class RingCircuits {
 
         /** Of a gate that flips: the bits that must all be 1 for it. */
         static int controlBits(int gate) {
-            return wireBits(gate) & ~targetBit(gate);
+            int kind = kind(gate);
+            if (kind == CCX) {
+                return (1 << a(gate)) | (1 << b(gate));
+            }
+            return kind == CX ? 1 << a(gate) : 0;
         }
 
         static int turns(int gate) {
