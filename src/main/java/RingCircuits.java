@@ -423,7 +423,7 @@ public final class RingCircuits {
             return kind == Z ? 4 : 0;
         }
 
-        /** Turns are 2, 4 or 8 together just where both gates are T, S or Z: all that meet are of one kind. */
+        /** Turns are 2, 4 or 8 together just for two T, two S or two Z: all that meet are of one kind. */
         static boolean meet(int one, int two) {
             int kind = kind(one);
             if (kind != kind(two)) {
